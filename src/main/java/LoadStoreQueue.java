@@ -86,7 +86,6 @@ public final class LoadStoreQueue {
         sizes[p] = size;
         addresses[p] = UNKNOWN;
         ready[p] = false;
-        values[p] = 0L;
         windowCount = p + 1;
         return p;
     }

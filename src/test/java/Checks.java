@@ -1,3 +1,5 @@
+import java.util.function.LongSupplier;
+
 /** Gathers the answers of one test that are not as due, and reads what can be seen of a queue. */
 final class Checks {
     private int wrong = 0;
@@ -15,11 +17,11 @@ final class Checks {
         }
     }
 
-    /** A refusal must give its answer and leave everything as it was. */
-    void refused(LoadStoreQueue q, String call, java.util.function.LongSupplier made, long want) {
+    /** The call must give its answer and leave everything as it was. */
+    void changesNothing(LoadStoreQueue q, String what, LongSupplier call, long want) {
         String before = all(q);
-        due(call, made.getAsLong(), want);
-        same("all after " + call, all(q), before);
+        due(what, call.getAsLong(), want);
+        same("all after " + what, all(q), before);
     }
 
     void end() {

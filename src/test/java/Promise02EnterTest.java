@@ -31,32 +31,32 @@ public final class Promise02EnterTest {
     private static void wrongInputs(Checks c) {
         LoadStoreQueue q = Fixtures.busy();
         for (int kind : new int[] {-1, 2, 3, Integer.MIN_VALUE, Integer.MAX_VALUE}) {
-            c.refused(q, "enter of kind " + kind, () -> q.enter(kind, 1, 1), LoadStoreQueue.BAD_KIND);
+            c.changesNothing(q, "enter of kind " + kind, () -> q.enter(kind, 1, 1), LoadStoreQueue.BAD_KIND);
         }
         for (int pc : new int[] {-1, 16, 17, Integer.MIN_VALUE, Integer.MAX_VALUE}) {
-            c.refused(q, "enter of pc " + pc, () -> q.enter(0, pc, 1), LoadStoreQueue.BAD_ARGUMENT);
-            c.refused(q, "enter of pc " + pc, () -> q.enter(1, pc, 4), LoadStoreQueue.BAD_ARGUMENT);
+            c.changesNothing(q, "enter of pc " + pc, () -> q.enter(0, pc, 1), LoadStoreQueue.BAD_ARGUMENT);
+            c.changesNothing(q, "enter of pc " + pc, () -> q.enter(1, pc, 4), LoadStoreQueue.BAD_ARGUMENT);
         }
         for (int size : new int[] {-1, 0, 3, 5, 6, 8, 16, Integer.MIN_VALUE, Integer.MAX_VALUE}) {
-            c.refused(q, "enter of size " + size, () -> q.enter(0, 0, size), LoadStoreQueue.BAD_ARGUMENT);
-            c.refused(q, "enter of size " + size, () -> q.enter(1, 15, size), LoadStoreQueue.BAD_ARGUMENT);
+            c.changesNothing(q, "enter of size " + size, () -> q.enter(0, 0, size), LoadStoreQueue.BAD_ARGUMENT);
+            c.changesNothing(q, "enter of size " + size, () -> q.enter(1, 15, size), LoadStoreQueue.BAD_ARGUMENT);
         }
     }
 
     private static void orderOfRefusals(Checks c) {
         LoadStoreQueue q = Fixtures.busy();
-        c.refused(q, "kind before pc", () -> q.enter(2, 16, 1), LoadStoreQueue.BAD_KIND);
-        c.refused(q, "kind before size", () -> q.enter(2, 0, 3), LoadStoreQueue.BAD_KIND);
+        c.changesNothing(q, "kind before pc", () -> q.enter(2, 16, 1), LoadStoreQueue.BAD_KIND);
+        c.changesNothing(q, "kind before size", () -> q.enter(2, 0, 3), LoadStoreQueue.BAD_KIND);
         c.due("the 11th of 12", q.enter(0, 0, 1), 10);
         c.due("the 12th of 12", q.enter(1, 15, 4), 11);
-        c.refused(q, "the 13th of 12", () -> q.enter(0, 0, 1), LoadStoreQueue.FULL);
-        c.refused(q, "the 13th of 12", () -> q.enter(1, 0, 1), LoadStoreQueue.FULL);
-        c.refused(q, "kind before full", () -> q.enter(-1, 0, 1), LoadStoreQueue.BAD_KIND);
-        c.refused(q, "pc before full", () -> q.enter(0, 16, 1), LoadStoreQueue.BAD_ARGUMENT);
-        c.refused(q, "size before full", () -> q.enter(0, 0, 0), LoadStoreQueue.BAD_ARGUMENT);
+        c.changesNothing(q, "the 13th of 12", () -> q.enter(0, 0, 1), LoadStoreQueue.FULL);
+        c.changesNothing(q, "the 13th of 12", () -> q.enter(1, 0, 1), LoadStoreQueue.FULL);
+        c.changesNothing(q, "kind before full", () -> q.enter(-1, 0, 1), LoadStoreQueue.BAD_KIND);
+        c.changesNothing(q, "pc before full", () -> q.enter(0, 16, 1), LoadStoreQueue.BAD_ARGUMENT);
+        c.changesNothing(q, "size before full", () -> q.enter(0, 0, 0), LoadStoreQueue.BAD_ARGUMENT);
         q.commit();
         c.due("enter after room was made", q.enter(0, 0, 1), 11);
-        c.refused(q, "and once more", () -> q.enter(0, 0, 1), LoadStoreQueue.FULL);
+        c.changesNothing(q, "and once more", () -> q.enter(0, 0, 1), LoadStoreQueue.FULL);
     }
 
     private static void nothingElseChanges(Checks c) {

@@ -16,20 +16,20 @@ public final class Promise03SetAddressTest {
 
     private static void refusals(Checks c) {
         LoadStoreQueue empty = new LoadStoreQueue(4, 1, 8);
-        c.refused(empty, "setAddress(0, 0) in an empty window", () -> empty.setAddress(0, 0), LoadStoreQueue.NO_OP);
+        c.changesNothing(empty, "an empty window", () -> empty.setAddress(0, 0), LoadStoreQueue.NO_OP);
         LoadStoreQueue q = Fixtures.busy();
         for (int p : new int[] {-1, 10, 11, 12, 32, 64, Integer.MIN_VALUE, Integer.MAX_VALUE}) {
-            c.refused(q, "setAddress at " + p, () -> q.setAddress(p, 0), LoadStoreQueue.NO_OP);
-            c.refused(q, "position before address at " + p, () -> q.setAddress(p, -1), LoadStoreQueue.NO_OP);
+            c.changesNothing(q, "setAddress at " + p, () -> q.setAddress(p, 0), LoadStoreQueue.NO_OP);
+            c.changesNothing(q, "position before address at " + p, () -> q.setAddress(p, -1), LoadStoreQueue.NO_OP);
         }
         for (int p : new int[] {0, 2, 3, 4, 6, 7, 9}) {
-            c.refused(q, "setAddress again at " + p, () -> q.setAddress(p, 1), LoadStoreQueue.ALREADY);
-            c.refused(q, "known before bad at " + p, () -> q.setAddress(p, -1), LoadStoreQueue.ALREADY);
-            c.refused(q, "known before bad at " + p, () -> q.setAddress(p, 24), LoadStoreQueue.ALREADY);
+            c.changesNothing(q, "setAddress again at " + p, () -> q.setAddress(p, 1), LoadStoreQueue.ALREADY);
+            c.changesNothing(q, "known before bad at " + p, () -> q.setAddress(p, -1), LoadStoreQueue.ALREADY);
+            c.changesNothing(q, "known before bad at " + p, () -> q.setAddress(p, 24), LoadStoreQueue.ALREADY);
         }
         for (int address : new int[] {-1, -2, 24, 25, 64, Integer.MIN_VALUE, Integer.MAX_VALUE}) {
             for (int p : new int[] {1, 5, 8}) {
-                c.refused(q, "setAddress(" + p + ", " + address + ")",
+                c.changesNothing(q, "setAddress(" + p + ", " + address + ")",
                         () -> q.setAddress(p, address), LoadStoreQueue.BAD_ARGUMENT);
             }
         }
@@ -43,8 +43,8 @@ public final class Promise03SetAddressTest {
                     int last = cells - size;
                     q.enter(kind, 1, size);
                     q.enter(kind, 1, size);
-                    c.refused(q, "one below", () -> q.setAddress(0, -1), LoadStoreQueue.BAD_ARGUMENT);
-                    c.refused(q, "one above", () -> q.setAddress(0, last + 1), LoadStoreQueue.BAD_ARGUMENT);
+                    c.changesNothing(q, "one below", () -> q.setAddress(0, -1), LoadStoreQueue.BAD_ARGUMENT);
+                    c.changesNothing(q, "one above", () -> q.setAddress(0, last + 1), LoadStoreQueue.BAD_ARGUMENT);
                     c.due("the first", q.setAddress(0, 0), 0);
                     c.due("the first, read back", q.address(0), 0);
                     c.due("the last", q.setAddress(1, last), 0);
@@ -172,7 +172,7 @@ public final class Promise03SetAddressTest {
         for (int i = 1; i < 32; i++) {
             c.due("value " + i, q.value(i), 1 + i % 4);
         }
-        c.refused(q, "no second time", () -> q.setAddress(0, 20), LoadStoreQueue.ALREADY);
+        c.changesNothing(q, "no second time", () -> q.setAddress(0, 20), LoadStoreQueue.ALREADY);
     }
 
     private static void sameValueIsStillSentBack(Checks c) {

@@ -11,16 +11,16 @@ public final class Promise04SetDataTest {
 
     private static void refusals(Checks c) {
         LoadStoreQueue empty = new LoadStoreQueue(4, 1, 8);
-        c.refused(empty, "setData(0, 0) in an empty window", () -> empty.setData(0, 0), LoadStoreQueue.NO_OP);
+        c.changesNothing(empty, "setData(0, 0) in an empty window", () -> empty.setData(0, 0), LoadStoreQueue.NO_OP);
         LoadStoreQueue q = Fixtures.busy();
         for (int p : new int[] {-1, 10, 12, 32, Integer.MIN_VALUE, Integer.MAX_VALUE}) {
-            c.refused(q, "setData at " + p, () -> q.setData(p, 1), LoadStoreQueue.NO_OP);
+            c.changesNothing(q, "setData at " + p, () -> q.setData(p, 1), LoadStoreQueue.NO_OP);
         }
         for (int p : new int[] {0, 3, 4, 7, 8, 9}) {
-            c.refused(q, "setData of load " + p, () -> q.setData(p, 1), LoadStoreQueue.BAD_KIND);
+            c.changesNothing(q, "setData of load " + p, () -> q.setData(p, 1), LoadStoreQueue.BAD_KIND);
         }
         for (int p : new int[] {1, 6}) {
-            c.refused(q, "setData again at " + p, () -> q.setData(p, 1), LoadStoreQueue.ALREADY);
+            c.changesNothing(q, "setData again at " + p, () -> q.setData(p, 1), LoadStoreQueue.ALREADY);
         }
     }
 

@@ -16,20 +16,20 @@ public final class Promise05ExecuteTest {
 
     private static void refusals(Checks c) {
         LoadStoreQueue empty = new LoadStoreQueue(4, 1, 8);
-        c.refused(empty, "execute(0) in an empty window", () -> empty.execute(0), LoadStoreQueue.NO_OP);
+        c.changesNothing(empty, "execute(0) in an empty window", () -> empty.execute(0), LoadStoreQueue.NO_OP);
         LoadStoreQueue q = Fixtures.busy();
         for (int p : new int[] {-1, 10, 12, 32, Integer.MIN_VALUE, Integer.MAX_VALUE}) {
-            c.refused(q, "execute(" + p + ")", () -> q.execute(p), LoadStoreQueue.NO_OP);
+            c.changesNothing(q, "execute(" + p + ")", () -> q.execute(p), LoadStoreQueue.NO_OP);
         }
         for (int p : new int[] {1, 2, 5, 6}) {
-            c.refused(q, "execute of store " + p, () -> q.execute(p), LoadStoreQueue.BAD_KIND);
+            c.changesNothing(q, "execute of store " + p, () -> q.execute(p), LoadStoreQueue.BAD_KIND);
         }
         for (int p : new int[] {0, 4, 9}) {
-            c.refused(q, "execute again at " + p, () -> q.execute(p), LoadStoreQueue.ALREADY);
+            c.changesNothing(q, "execute again at " + p, () -> q.execute(p), LoadStoreQueue.ALREADY);
         }
-        c.refused(q, "execute without address", () -> q.execute(8), LoadStoreQueue.NO_ADDRESS);
-        c.refused(q, "no data for all bytes", () -> q.execute(3), LoadStoreQueue.NO_DATA);
-        c.refused(q, "no data for two bytes", () -> q.execute(7), LoadStoreQueue.NO_DATA);
+        c.changesNothing(q, "execute without address", () -> q.execute(8), LoadStoreQueue.NO_ADDRESS);
+        c.changesNothing(q, "no data for all bytes", () -> q.execute(3), LoadStoreQueue.NO_DATA);
+        c.changesNothing(q, "no data for two bytes", () -> q.execute(7), LoadStoreQueue.NO_DATA);
     }
 
     private static void predicted(Checks c) {
@@ -41,13 +41,13 @@ public final class Promise05ExecuteTest {
         q.enter(1, 9, 1);
         q.setAddress(1, 0);
         q.enter(0, 4, 1);
-        c.refused(q, "no address before predicted", () -> q.execute(2), LoadStoreQueue.NO_ADDRESS);
+        c.changesNothing(q, "no address before predicted", () -> q.execute(2), LoadStoreQueue.NO_ADDRESS);
         q.setAddress(2, 0);
-        c.refused(q, "predicted through a chain, before no data", () -> q.execute(2), LoadStoreQueue.PREDICTED);
+        c.changesNothing(q, "predicted through a chain, before no data", () -> q.execute(2), LoadStoreQueue.PREDICTED);
         q.setData(0, 5);
-        c.refused(q, "known data do not help", () -> q.execute(2), LoadStoreQueue.PREDICTED);
+        c.changesNothing(q, "known data do not help", () -> q.execute(2), LoadStoreQueue.PREDICTED);
         c.due("a known address does", q.setAddress(0, 1), 0);
-        c.refused(q, "then the data of the source", () -> q.execute(2), LoadStoreQueue.NO_DATA);
+        c.changesNothing(q, "then the data of the source", () -> q.execute(2), LoadStoreQueue.NO_DATA);
         q.setData(1, 77);
         c.due("then execute", q.execute(2), LoadStoreQueue.OK);
         c.due("its value", q.value(2), 77);
@@ -58,10 +58,10 @@ public final class Promise05ExecuteTest {
         self.enter(1, 7, 1);
         self.setAddress(1, 3);
         Fixtures.load(self, 6, 1, 4);
-        c.refused(self, "the same pc", () -> self.execute(2), LoadStoreQueue.PREDICTED);
+        c.changesNothing(self, "the same pc", () -> self.execute(2), LoadStoreQueue.PREDICTED);
         self.discard(1);
         Fixtures.load(self, 6, 1, 4);
-        c.refused(self, "the same pc, right before it", () -> self.execute(1), LoadStoreQueue.PREDICTED);
+        c.changesNothing(self, "the same pc, right before it", () -> self.execute(1), LoadStoreQueue.PREDICTED);
         self.clearSets();
         c.due("after clearSets", self.execute(1), LoadStoreQueue.OK);
     }
@@ -94,9 +94,9 @@ public final class Promise05ExecuteTest {
         Fixtures.load(q, 2, 4, 3);
         Fixtures.load(q, 2, 4, 7);
         Fixtures.load(q, 2, 4, 8);
-        c.refused(q, "the last byte", () -> q.execute(1), LoadStoreQueue.NO_DATA);
+        c.changesNothing(q, "the last byte", () -> q.execute(1), LoadStoreQueue.NO_DATA);
         c.due("one byte before", q.execute(2), LoadStoreQueue.OK);
-        c.refused(q, "the first byte", () -> q.execute(3), LoadStoreQueue.NO_DATA);
+        c.changesNothing(q, "the first byte", () -> q.execute(3), LoadStoreQueue.NO_DATA);
         c.due("one byte after", q.execute(4), LoadStoreQueue.OK);
         q.setData(0, 0xAB);
         c.due("with data", q.execute(1), LoadStoreQueue.OK);
@@ -117,7 +117,7 @@ public final class Promise05ExecuteTest {
         youngest.enter(1, 1, 1);
         youngest.setAddress(1, 6);
         Fixtures.load(youngest, 2, 4, 4);
-        c.refused(youngest, "the youngest counts, with data or without", () -> youngest.execute(2),
+        c.changesNothing(youngest, "the youngest counts, with data or without", () -> youngest.execute(2),
                 LoadStoreQueue.NO_DATA);
     }
 
@@ -208,12 +208,12 @@ public final class Promise05ExecuteTest {
         q.execute(3);
         c.due("first value", q.value(3), 0x100D);
         c.due("sent back", q.setAddress(1, 4), 1);
-        c.refused(q, "now predicted by the other store of the pc", () -> q.execute(3), LoadStoreQueue.PREDICTED);
+        c.changesNothing(q, "now predicted by the other store of the pc", () -> q.execute(3), LoadStoreQueue.PREDICTED);
         q.setData(1, 0xAA);
         q.setAddress(0, 4);
         c.due("again", q.execute(3), LoadStoreQueue.OK);
         c.due("second value", q.value(3), 0x10AA);
-        c.refused(q, "and not a third time", () -> q.execute(3), LoadStoreQueue.ALREADY);
+        c.changesNothing(q, "and not a third time", () -> q.execute(3), LoadStoreQueue.ALREADY);
         c.due("sent back once more", q.setAddress(2, 5), 1);
         q.setData(2, 0xBB);
         c.due("again", q.execute(3), LoadStoreQueue.OK);

@@ -11,14 +11,14 @@ public final class Promise06ExecuteReadyTest {
 
     private static void noneReady(Checks c) {
         LoadStoreQueue empty = new LoadStoreQueue(4, 1, 8);
-        c.refused(empty, "an empty window", empty::executeReady, 0);
+        c.changesNothing(empty, "an empty window", empty::executeReady, 0);
         LoadStoreQueue stores = new LoadStoreQueue(4, 1, 8);
         Fixtures.store(stores, 1, 1, 0, 1);
         stores.enter(1, 2, 2);
         stores.enter(0, 2, 2);
-        c.refused(stores, "stores and a load without address", stores::executeReady, 0);
+        c.changesNothing(stores, "stores and a load without address", stores::executeReady, 0);
         LoadStoreQueue busy = Fixtures.busy();
-        c.refused(busy, "the busy queue", busy::executeReady, 0);
+        c.changesNothing(busy, "the busy queue", busy::executeReady, 0);
     }
 
     private static void someReady(Checks c) {
@@ -29,7 +29,7 @@ public final class Promise06ExecuteReadyTest {
         c.due("load 3", q.value(3), 0x0C0D);
         c.due("load 7", q.value(7), 0xCAFE0A0BL);
         c.due("load 8", q.value(8), 0x0401);
-        c.refused(q, "once more", q::executeReady, 0);
+        c.changesNothing(q, "once more", q::executeReady, 0);
     }
 
     private static void likeExecuteInTurn(Checks c) {

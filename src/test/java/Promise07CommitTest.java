@@ -8,26 +8,27 @@ public final class Promise07CommitTest {
         fullBuffer(c);
         theRestStays(c);
         inOrder(c);
+        aFullWindow(c);
         c.end();
     }
 
     private static void empty(Checks c) {
         LoadStoreQueue q = new LoadStoreQueue(4, 1, 16);
-        c.refused(q, "a new queue", q::commit, LoadStoreQueue.EMPTY);
+        c.changesNothing(q, "a new queue", q::commit, LoadStoreQueue.EMPTY);
         Fixtures.store(q, 1, 1, 0, 5);
         q.commit();
-        c.refused(q, "empty window, full buffer", q::commit, LoadStoreQueue.EMPTY);
+        c.changesNothing(q, "empty window, full buffer", q::commit, LoadStoreQueue.EMPTY);
         Fixtures.store(q, 1, 1, 0, 5);
         q.discard(0);
-        c.refused(q, "all discarded", q::commit, LoadStoreQueue.EMPTY);
+        c.changesNothing(q, "all discarded", q::commit, LoadStoreQueue.EMPTY);
     }
 
     private static void loads(Checks c) {
         LoadStoreQueue q = new LoadStoreQueue(8, 1, 16);
         q.enter(0, 1, 4);
-        c.refused(q, "a load without address", q::commit, LoadStoreQueue.NOT_READY);
+        c.changesNothing(q, "a load without address", q::commit, LoadStoreQueue.NOT_READY);
         q.setAddress(0, 4);
-        c.refused(q, "a load not executed", q::commit, LoadStoreQueue.NOT_READY);
+        c.changesNothing(q, "a load not executed", q::commit, LoadStoreQueue.NOT_READY);
         q.execute(0);
         c.due("an executed load", q.commit(), 0x1613100DL);
         c.due("count()", q.count(), 0);
@@ -46,7 +47,7 @@ public final class Promise07CommitTest {
         q.setAddress(0, 9);
         q.drain();
         c.due("the store", q.commit(), LoadStoreQueue.STORE_DONE);
-        c.refused(q, "a load sent back", q::commit, LoadStoreQueue.NOT_READY);
+        c.changesNothing(q, "a load sent back", q::commit, LoadStoreQueue.NOT_READY);
         q.execute(0);
         c.due("executed again", q.commit(), 1);
 
@@ -62,13 +63,13 @@ public final class Promise07CommitTest {
         LoadStoreQueue q = new LoadStoreQueue(8, 2, 16);
         q.enter(1, 1, 2);
         q.enter(1, 2, 2);
-        c.refused(q, "nothing known", q::commit, LoadStoreQueue.NOT_READY);
+        c.changesNothing(q, "nothing known", q::commit, LoadStoreQueue.NOT_READY);
         q.setAddress(0, 4);
-        c.refused(q, "data unknown", q::commit, LoadStoreQueue.NOT_READY);
+        c.changesNothing(q, "data unknown", q::commit, LoadStoreQueue.NOT_READY);
         q.setData(0, 0xABCD);
         c.due("both known", q.commit(), LoadStoreQueue.STORE_DONE);
         q.setData(0, 0x1234);
-        c.refused(q, "address unknown", q::commit, LoadStoreQueue.NOT_READY);
+        c.changesNothing(q, "address unknown", q::commit, LoadStoreQueue.NOT_READY);
         q.setAddress(0, 5);
         c.due("both known", q.commit(), LoadStoreQueue.STORE_DONE);
         c.due("count()", q.count(), 0);
@@ -94,11 +95,11 @@ public final class Promise07CommitTest {
             q.execute(0);
             c.due("a load with a full buffer", q.commit(), 100);
             q.enter(1, 1, 1);
-            c.refused(q, "not ready before full", q::commit, LoadStoreQueue.NOT_READY);
+            c.changesNothing(q, "not ready before full", q::commit, LoadStoreQueue.NOT_READY);
             q.setData(0, 7);
-            c.refused(q, "not ready before full", q::commit, LoadStoreQueue.NOT_READY);
+            c.changesNothing(q, "not ready before full", q::commit, LoadStoreQueue.NOT_READY);
             q.setAddress(0, 15);
-            c.refused(q, "a store with a full buffer", q::commit, LoadStoreQueue.FULL);
+            c.changesNothing(q, "a store with a full buffer", q::commit, LoadStoreQueue.FULL);
             q.drain();
             c.due("after a drain", q.commit(), LoadStoreQueue.STORE_DONE);
             c.due("pending() is full again", q.pending(), size);
@@ -146,5 +147,21 @@ public final class Promise07CommitTest {
         q.commit();
         c.due("first load", q.commit(), 60);
         c.due("second load", q.commit(), 60);
+    }
+
+    private static void aFullWindow(Checks c) {
+        for (int size = 4; size <= 32; size++) {
+            LoadStoreQueue q = new LoadStoreQueue(size, 1, 64);
+            for (int i = 0; i < size; i++) {
+                Fixtures.load(q, i % 16, 1, i);
+            }
+            q.executeReady();
+            for (int i = 0; i < 2 * size; i++) {
+                c.due("commit " + i + " of a window of " + size, q.commit(), 3 * (i % size) + 1);
+                c.due("enter at the young end", q.enter(0, 3, 1), size - 1);
+                q.setAddress(size - 1, i % size);
+                q.execute(size - 1);
+            }
+        }
     }
 }

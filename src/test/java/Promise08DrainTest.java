@@ -12,12 +12,12 @@ public final class Promise08DrainTest {
 
     private static void empty(Checks c) {
         LoadStoreQueue q = new LoadStoreQueue(4, 1, 16);
-        c.refused(q, "a new queue", q::drain, LoadStoreQueue.EMPTY);
+        c.changesNothing(q, "a new queue", q::drain, LoadStoreQueue.EMPTY);
         Fixtures.store(q, 1, 1, 0, 5);
-        c.refused(q, "a store in the window", q::drain, LoadStoreQueue.EMPTY);
+        c.changesNothing(q, "a store in the window", q::drain, LoadStoreQueue.EMPTY);
         q.commit();
         c.due("a store in the buffer", q.drain(), LoadStoreQueue.OK);
-        c.refused(q, "and no more", q::drain, LoadStoreQueue.EMPTY);
+        c.changesNothing(q, "and no more", q::drain, LoadStoreQueue.EMPTY);
     }
 
     private static void everyByte(Checks c) {

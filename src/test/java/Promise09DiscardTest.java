@@ -12,11 +12,11 @@ public final class Promise09DiscardTest {
     private static void refusals(Checks c) {
         LoadStoreQueue empty = new LoadStoreQueue(4, 1, 8);
         for (int p : new int[] {-1, 0, 1, 4, Integer.MIN_VALUE, Integer.MAX_VALUE}) {
-            c.refused(empty, "empty: discard(" + p + ")", () -> empty.discard(p), LoadStoreQueue.NO_OP);
+            c.changesNothing(empty, "empty: discard(" + p + ")", () -> empty.discard(p), LoadStoreQueue.NO_OP);
         }
         LoadStoreQueue q = Fixtures.busy();
         for (int p : new int[] {-1, 10, 11, 12, 32, Integer.MIN_VALUE, Integer.MAX_VALUE}) {
-            c.refused(q, "discard(" + p + ")", () -> q.discard(p), LoadStoreQueue.NO_OP);
+            c.changesNothing(q, "discard(" + p + ")", () -> q.discard(p), LoadStoreQueue.NO_OP);
         }
     }
 
@@ -45,7 +45,7 @@ public final class Promise09DiscardTest {
         c.due("the pair stays", q.sameSet(1, 2), 1);
         q.enter(1, 1, 1);
         Fixtures.load(q, 2, 1, 3);
-        c.refused(q, "and predicts", () -> q.execute(1), LoadStoreQueue.PREDICTED);
+        c.changesNothing(q, "and predicts", () -> q.execute(1), LoadStoreQueue.PREDICTED);
     }
 
     private static void discardedStoresAreGone(Checks c) {
@@ -56,6 +56,6 @@ public final class Promise09DiscardTest {
         q.execute(0);
         c.due("the load reads memory", q.value(0), 10);
         c.due("the load keeps out of it", q.commit(), 10);
-        c.refused(q, "nothing came into the buffer", q::drain, LoadStoreQueue.EMPTY);
+        c.changesNothing(q, "nothing came into the buffer", q::drain, LoadStoreQueue.EMPTY);
     }
 }

@@ -25,7 +25,7 @@ public final class Promise11CountTest {
         q.discard(0);
         c.due("after discard of all", q.count(), 0);
         LoadStoreQueue busy = Fixtures.busy();
-        c.refused(busy, "count()", busy::count, 10);
+        c.changesNothing(busy, "count()", busy::count, 10);
         c.end();
     }
 }

@@ -27,7 +27,7 @@ public final class Promise12PendingTest {
         q.drain();
         c.due("after a refused drain", q.pending(), 0);
         LoadStoreQueue busy = Fixtures.busy();
-        c.refused(busy, "pending()", busy::pending, 2);
+        c.changesNothing(busy, "pending()", busy::pending, 2);
         c.end();
     }
 }

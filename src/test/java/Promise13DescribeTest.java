@@ -4,7 +4,7 @@ public final class Promise13DescribeTest {
         Checks c = new Checks();
         LoadStoreQueue empty = new LoadStoreQueue(4, 1, 8);
         for (int p : new int[] {-1, 0, 1, 31, 32, Integer.MIN_VALUE, Integer.MAX_VALUE}) {
-            c.refused(empty, "empty: describe(" + p + ")", () -> empty.describe(p), LoadStoreQueue.NO_OP);
+            c.changesNothing(empty, "empty: describe(" + p + ")", () -> empty.describe(p), LoadStoreQueue.NO_OP);
         }
         for (int pc = 0; pc <= 15; pc++) {
             for (int s = 0; s <= 2; s++) {
@@ -16,10 +16,10 @@ public final class Promise13DescribeTest {
         int[] want = {147, 173, 214, 234, 259, 292, 335, 370, 392, 427};
         for (int i = 0; i < want.length; i++) {
             int p = i;
-            c.refused(busy, "busy: describe(" + p + ")", () -> busy.describe(p), want[p]);
+            c.changesNothing(busy, "busy: describe(" + p + ")", () -> busy.describe(p), want[p]);
         }
-        c.refused(busy, "busy: describe(-1)", () -> busy.describe(-1), LoadStoreQueue.NO_OP);
-        c.refused(busy, "busy: describe(10)", () -> busy.describe(10), LoadStoreQueue.NO_OP);
+        c.changesNothing(busy, "busy: describe(-1)", () -> busy.describe(-1), LoadStoreQueue.NO_OP);
+        c.changesNothing(busy, "busy: describe(10)", () -> busy.describe(10), LoadStoreQueue.NO_OP);
         c.end();
     }
 

@@ -4,17 +4,17 @@ public final class Promise14AddressTest {
         Checks c = new Checks();
         LoadStoreQueue empty = new LoadStoreQueue(4, 1, 8);
         for (int p : new int[] {-1, 0, 1, 32, Integer.MIN_VALUE, Integer.MAX_VALUE}) {
-            c.refused(empty, "empty: address(" + p + ")", () -> empty.address(p), LoadStoreQueue.NO_OP);
+            c.changesNothing(empty, "empty: address(" + p + ")", () -> empty.address(p), LoadStoreQueue.NO_OP);
         }
         LoadStoreQueue busy = Fixtures.busy();
         int unknown = LoadStoreQueue.NO_ADDRESS;
         int[] want = {3, unknown, 8, 8, 20, unknown, 12, 10, unknown, 12};
         for (int i = 0; i < want.length; i++) {
             int p = i;
-            c.refused(busy, "busy: address(" + p + ")", () -> busy.address(p), want[p]);
+            c.changesNothing(busy, "busy: address(" + p + ")", () -> busy.address(p), want[p]);
         }
         for (int p : new int[] {-1, 10, 12, 32, Integer.MIN_VALUE, Integer.MAX_VALUE}) {
-            c.refused(busy, "busy: address(" + p + ")", () -> busy.address(p), LoadStoreQueue.NO_OP);
+            c.changesNothing(busy, "busy: address(" + p + ")", () -> busy.address(p), LoadStoreQueue.NO_OP);
         }
         LoadStoreQueue q = new LoadStoreQueue(4, 1, 64);
         q.enter(0, 1, 1);

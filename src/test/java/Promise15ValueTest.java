@@ -4,17 +4,17 @@ public final class Promise15ValueTest {
         Checks c = new Checks();
         LoadStoreQueue empty = new LoadStoreQueue(4, 1, 8);
         for (int p : new int[] {-1, 0, 1, 32, Integer.MIN_VALUE, Integer.MAX_VALUE}) {
-            c.refused(empty, "empty: value(" + p + ")", () -> empty.value(p), LoadStoreQueue.NO_OP);
+            c.changesNothing(empty, "empty: value(" + p + ")", () -> empty.value(p), LoadStoreQueue.NO_OP);
         }
         LoadStoreQueue busy = Fixtures.busy();
         long not = LoadStoreQueue.NOT_READY;
         long[] want = {0x1377EF22L, 0x1234, not, not, 61, not, 0xCAFE, not, not, 0xCAFE};
         for (int i = 0; i < want.length; i++) {
             int p = i;
-            c.refused(busy, "busy: value(" + p + ")", () -> busy.value(p), want[p]);
+            c.changesNothing(busy, "busy: value(" + p + ")", () -> busy.value(p), want[p]);
         }
         for (int p : new int[] {-1, 10, 12, 32, Integer.MIN_VALUE, Integer.MAX_VALUE}) {
-            c.refused(busy, "busy: value(" + p + ")", () -> busy.value(p), LoadStoreQueue.NO_OP);
+            c.changesNothing(busy, "busy: value(" + p + ")", () -> busy.value(p), LoadStoreQueue.NO_OP);
         }
         unsigned(c, 1, 255L);
         unsigned(c, 2, 65535L);

@@ -14,15 +14,16 @@ public final class Promise16MemoryTest {
         for (int a : new int[] {-1, 24, 25, 63, 64, Integer.MIN_VALUE, Integer.MAX_VALUE}) {
             for (int n = 0; n <= 2; n++) {
                 int drains = n;
-                c.refused(q, "memory(" + a + ", " + n + ")", () -> q.memory(a, drains), LoadStoreQueue.BAD_ARGUMENT);
+                c.changesNothing(q, "memory(" + a + ", " + n + ")",
+                        () -> q.memory(a, drains), LoadStoreQueue.BAD_ARGUMENT);
             }
         }
         for (int n : new int[] {-1, 3, 4, 8, Integer.MIN_VALUE, Integer.MAX_VALUE}) {
-            c.refused(q, "memory(0, " + n + ")", () -> q.memory(0, n), LoadStoreQueue.BAD_ARGUMENT);
-            c.refused(q, "memory(-1, " + n + ")", () -> q.memory(-1, n), LoadStoreQueue.BAD_ARGUMENT);
+            c.changesNothing(q, "memory(0, " + n + ")", () -> q.memory(0, n), LoadStoreQueue.BAD_ARGUMENT);
+            c.changesNothing(q, "memory(-1, " + n + ")", () -> q.memory(-1, n), LoadStoreQueue.BAD_ARGUMENT);
         }
-        c.refused(q, "the last cell", () -> q.memory(23, 2), 70);
-        c.refused(q, "the first cell", () -> q.memory(0, 0), 1);
+        c.changesNothing(q, "the last cell", () -> q.memory(23, 2), 70);
+        c.changesNothing(q, "the first cell", () -> q.memory(0, 0), 1);
     }
 
     private static void ordinary(Checks c) {

@@ -12,12 +12,12 @@ public final class Promise17SameSetTest {
     private static void refusals(Checks c) {
         LoadStoreQueue q = Fixtures.busy();
         for (int bad : new int[] {-1, 16, 17, Integer.MIN_VALUE, Integer.MAX_VALUE}) {
-            c.refused(q, "sameSet(" + bad + ", 0)", () -> q.sameSet(bad, 0), LoadStoreQueue.BAD_ARGUMENT);
-            c.refused(q, "sameSet(15, " + bad + ")", () -> q.sameSet(15, bad), LoadStoreQueue.BAD_ARGUMENT);
-            c.refused(q, "sameSet(" + bad + ", same)", () -> q.sameSet(bad, bad), LoadStoreQueue.BAD_ARGUMENT);
+            c.changesNothing(q, "sameSet(" + bad + ", 0)", () -> q.sameSet(bad, 0), LoadStoreQueue.BAD_ARGUMENT);
+            c.changesNothing(q, "sameSet(15, " + bad + ")", () -> q.sameSet(15, bad), LoadStoreQueue.BAD_ARGUMENT);
+            c.changesNothing(q, "sameSet(" + bad + ", same)", () -> q.sameSet(bad, bad), LoadStoreQueue.BAD_ARGUMENT);
         }
-        c.refused(q, "sameSet(0, 15)", () -> q.sameSet(0, 15), 0);
-        c.refused(q, "sameSet(6, 7)", () -> q.sameSet(6, 7), 1);
+        c.changesNothing(q, "sameSet(0, 15)", () -> q.sameSet(0, 15), 0);
+        c.changesNothing(q, "sameSet(6, 7)", () -> q.sameSet(6, 7), 1);
     }
 
     private static void selfAndPairs(Checks c) {
