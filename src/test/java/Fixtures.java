@@ -3,6 +3,16 @@ final class Fixtures {
     private Fixtures() {
     }
 
+    /** A load of which no address is known. */
+    static int bareLoad(LoadStoreQueue q, int pc, int size) {
+        return q.enter(LoadStoreQueue.LOAD, pc, size);
+    }
+
+    /** A store of which neither address nor data are known. */
+    static int bareStore(LoadStoreQueue q, int pc, int size) {
+        return q.enter(LoadStoreQueue.STORE, pc, size);
+    }
+
     static int load(LoadStoreQueue q, int pc, int size, int address) {
         int p = q.enter(LoadStoreQueue.LOAD, pc, size);
         q.setAddress(p, address);
@@ -14,6 +24,25 @@ final class Fixtures {
         q.setAddress(p, address);
         q.setData(p, data);
         return p;
+    }
+
+    /** A load that could be executed at once, and was. */
+    static int executedLoad(LoadStoreQueue q, int pc, int size, int address) {
+        int p = load(q, pc, size, address);
+        q.execute(p);
+        return p;
+    }
+
+    /** Puts a store into the buffer of a queue whose window is empty. */
+    static void buffered(LoadStoreQueue q, int size, int address, int data) {
+        store(q, 0, size, address, data);
+        q.commit();
+    }
+
+    /** The nearest and the farthest ints that are no position in the window. */
+    static int[] noPositions(LoadStoreQueue q) {
+        int count = q.count();
+        return new int[] {Integer.MIN_VALUE, -32, -1, count, count + 1, 32, 33, Integer.MAX_VALUE};
     }
 
     /** Makes the queue, whose window must be empty, remember the pair, and empties the window again. */
@@ -66,5 +95,33 @@ final class Fixtures {
         load(q, 13, 2, 12);
         q.execute(9);
         return q;
+    }
+
+    /**
+     * The busy queue, held against what is said of it above. Tests that compare what shows before a call
+     * with what shows after it need this: reading or building might itself have spoilt what was there before.
+     */
+    static LoadStoreQueue busy(Checks c) {
+        LoadStoreQueue q = busy();
+        c.same("the busy queue", Checks.all(q), "10:(147 3 326627106)(173 -6 4660)(214 8 -9)(234 8 -9)(259 20 61)"
+                + "(292 -6 -9)(335 12 51966)(370 10 -9)(392 -6 -9)(427 12 51966) | 2: "
+                + busyCells(0x33, 0x44) + busyCells(0xEF, 0xBE) + busyCells(0xEF, 0x77) + " | " + busySets());
+        return q;
+    }
+
+    private static String busyCells(int fourth, int fifth) {
+        StringBuilder text = new StringBuilder();
+        int[] written = {0x11, 0x22, fourth, fifth};
+        for (int a = -1; a <= 64; a++) {
+            int cell = a >= 2 && a <= 5 ? written[a - 2] : 3 * a + 1;
+            text.append(a >= 0 && a < 24 ? cell : LoadStoreQueue.BAD_ARGUMENT).append(' ');
+        }
+        return text.append("/ ").toString();
+    }
+
+    private static String busySets() {
+        String none = "0000000000000000 ";
+        String both = "0000001100000000 ";
+        return none.repeat(6) + both.repeat(2) + none.repeat(8);
     }
 }

@@ -80,7 +80,7 @@ public final class Promise02EnterTest {
             if (round == 0) {
                 q.discard(0);
             }
-            while (q.count() > 0) {
+            for (int i = 0; i < 4; i++) {
                 q.commit();
             }
             for (int i = 0; i < 4; i++) {
@@ -89,7 +89,7 @@ public final class Promise02EnterTest {
                         "(" + (i * 32 + 8 + (i + round) % 2 * 4) + " -6 -9)");
             }
             q.discard(0);
-            while (q.pending() > 0) {
+            for (int i = 0; i < 4; i++) {
                 q.drain();
             }
             Fixtures.load(q, 1, 4, 0);
